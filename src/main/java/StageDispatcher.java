@@ -534,7 +534,7 @@ public final class StageDispatcher {
 
     /** Finds the way that counts in which a template matches a path from a place on. */
     private static final class Fit {
-        /** The places of the path from which the pieces from p on match. */
+        /** For each piece the places of the path, as bits, from which it and those behind it match. */
         final int[] open = new int[MAX_TEXT + 1];
         final int[] groupStart = new int[MAX_GROUPS];
         final int[] groupEnd = new int[MAX_GROUPS];
@@ -542,7 +542,7 @@ public final class StageDispatcher {
         int rest = 0;
 
         boolean find(Template template, Text path, int from) {
-            openPlaces(template, path);
+            openPlaces(template, path, from);
             if (!holds(open[0], from)) {
                 return false;
             }
@@ -562,22 +562,22 @@ public final class StageDispatcher {
         }
 
         /** Backwards, so that the walk forwards can take each longest text and never turn back. */
-        private void openPlaces(Template template, Text path) {
+        private void openPlaces(Template template, Text path, int from) {
             int rests = 1 << path.length;
-            for (int i = 0; i < path.length; i++) {
+            for (int i = from; i < path.length; i++) {
                 rests |= path.has(i, '/') ? 1 << i : 0;
             }
             open[template.count] = rests;
             for (int p = template.count - 1; p >= 0; p--) {
                 int places = 0;
-                for (int i = 0; i <= path.length; i++) {
+                for (int i = from; i <= path.length; i++) {
                     places |= lastEnd(template.pieces[p], path, i, open[p + 1]) == NONE ? 0 : 1 << i;
                 }
                 open[p] = places;
             }
         }
 
-        /** The last of the open places at which a piece's text that begins at start may end. */
+        /** The last of the open places at which a piece's text that begins at start may end, or NONE. */
         private static int lastEnd(int piece, Text path, int start, int openPlaces) {
             int least = piece == GROUP_OF_ANY ? start : start + 1;
             int greatest = Template.isGroup(piece) ? path.length : Math.min(path.length, start + 1);
@@ -690,7 +690,8 @@ public final class StageDispatcher {
             return found;
         }
 
-        int methodsWithout(int classes) {
+        /** The methods of the classes that have no template. */
+        int bareMethods(int classes) {
             int found = 0;
             for (int m = 0; m < methodCount; m++) {
                 if (holds(classes, methods[m].owner) && methods[m].template == null) {
@@ -774,7 +775,7 @@ public final class StageDispatcher {
         boolean findCandidates(Catalog catalog, Outcome outcome) {
             // A hop takes at least the / with which its template begins, so there are never more.
             for (int hops = 0; hops <= MAX_TEXT; hops++) {
-                candidates = outcome.path.endsAt(from) ? catalog.methodsWithout(classes) : 0;
+                candidates = outcome.path.endsAt(from) ? catalog.bareMethods(classes) : 0;
                 if (candidates != 0) {
                     return true;
                 }

@@ -80,6 +80,15 @@ public final class FlowTest {
         check.same("even with a mapper", Check.typed(d, "/b").request(0, 0, 3), 501);
         check.same("what is thrown is", Check.typed(d, "/b").request(0, 0, 4), 111);
 
+        for (int kind = 0; kind <= 1; kind++) {
+            StageDispatcher least = withMethod(0, 0);
+            least.filter(0, 0, kind, 3, 100);
+            least.filter(1, 0, kind, 3, 599);
+            check.same("the least status ends it, kind " + kind, Check.typed(least, "/a").request(0, 0, 3), 100);
+            check.same("not invoked", least.invoked(), NONE);
+            check.ran("no later one", least, 0);
+        }
+
         StageDispatcher e = withMethod(0, 0);
         e.detail(0, NONE, 0, 5);
         e.filter(0, 0, 1, 4, 200);
