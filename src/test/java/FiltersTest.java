@@ -113,7 +113,9 @@ public final class FiltersTest {
             for (int status : new int[] {100, 101, 200, 204, 404, 598, 599}) {
                 StageDispatcher d = named(0);
                 d.filter(0, 0, kind, 3, status);
+                d.filter(0, 0, kind, 3, 333);
                 check.same("kind " + kind + ", status " + status, Check.sent(d, "/a", 3), status);
+                check.ran("no later one", d, 0);
                 check.same("not invoked", d.invoked(), NONE);
                 check.same("matched", d.produced(), kind == 0 ? NONE : 255);
                 check.same("another header", Check.sent(d, "/a", 4), 200);

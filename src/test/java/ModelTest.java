@@ -8,8 +8,10 @@ import java.util.TreeMap;
  * runs paths lead through many templates; in the other half methods without a template compete.
  */
 public final class ModelTest {
-    private static final int RUNS = 4000;
+    private static final int RUNS = 20000;
     private static final int CALLS = 512;
+    /** A turn types at most so many characters, makes a call, and asks what is told of a request. */
+    private static final int CALLS_OF_A_TURN = 120;
     private static final String[] TEMPLATE_PARTS = {
         "/a", "/b", "/ab", "/{}", "/{d}", "/{r}", "/a{}", "/{d}x", "/{}{}", "/{r}/a", "/1", "/{r}{d}", "/{}b", "//a"};
     private static final String[] BAD_PARTS = {"{", "}", "/", "{x}", "{dr}", "{}{}{}", "a", "{r}", "{d}", "{d", "d}"};
@@ -47,7 +49,7 @@ public final class ModelTest {
         }
         System.out.println("requests by status: " + statuses + " (0: other ones)");
         for (int status : new int[] {-1, 200, 204, 404, 405, 406, 415, 500}) {
-            check.yes("requests with the status " + status, statuses.getOrDefault(status, 0) > 500);
+            check.yes("requests with the status " + status, statuses.getOrDefault(status, 0) > 400);
         }
         check.end();
     }
@@ -55,7 +57,7 @@ public final class ModelTest {
     private void play() {
         addResource();
         addResource();
-        while (calls < CALLS) {
+        while (calls < CALLS - CALLS_OF_A_TURN) {
             switch (random.nextInt(20)) {
                 case 0 -> addResource();
                 case 1, 2, 3, 4 -> addMethod();
@@ -236,25 +238,23 @@ public final class ModelTest {
         compareLatest();
     }
 
-    /** Not counted as calls: none of them changes anything. */
     private void compareLatest() {
-        String where = "run " + run + ", call " + calls + ": ";
-        check.same(where + "invoked()", real.invoked(), model.invoked);
-        check.same(where + "argument()", real.argument(), model.argument);
-        check.same(where + "allowed()", real.allowed(), model.allowed);
-        check.same(where + "produced()", real.produced(), model.produced);
-        for (int k = -1; k < 26; k++) {
-            check.same(where + "hop(" + k + ")", real.hop(k), at(model.hops, k));
-            check.same(where + "ran(" + k + ")", real.ran(k), at(model.ran, k));
+        due("invoked()", real.invoked(), model.invoked);
+        due("argument()", real.argument(), model.argument);
+        due("allowed()", real.allowed(), model.allowed);
+        due("produced()", real.produced(), model.produced);
+        for (int k = -1; k <= model.hops.size(); k++) {
+            due("hop(" + k + ")", real.hop(k), at(model.hops, k));
+        }
+        for (int k = -1; k <= model.ran.size(); k++) {
+            due("ran(" + k + ")", real.ran(k), at(model.ran, k));
         }
         for (int k = -1; k <= model.parameters.size(); k++) {
             boolean there = k >= 0 && k < model.parameters.size();
             String text = there ? model.parameters.get(k) : "";
-            check.same(where + "parameter(" + k + ", NONE)", real.parameter(k, -1), there ? text.length() : -1);
-            check.same(where + "parameter(" + k + ", -2)", real.parameter(k, -2), -1);
+            due("parameter(" + k + ", NONE)", real.parameter(k, -1), there ? text.length() : -1);
             for (int i = 0; i <= text.length(); i++) {
-                check.same(where + "parameter(" + k + ", " + i + ")", real.parameter(k, i),
-                        i < text.length() ? text.charAt(i) : -1);
+                due("parameter(" + k + ", " + i + ")", real.parameter(k, i), i < text.length() ? text.charAt(i) : -1);
             }
         }
     }

@@ -17,19 +17,20 @@ public final class RoomTest {
         System.out.println("bytes of an object: " + each);
         check.yes("an object is small", each < 6000);
 
-        StageDispatcher d = all[0];
-        Check.root(d, "/{r}");
-        Check.locator(d, 0, "/{r}{r}{r}{r}x", 0);
-        Check.method(d, 0, 0, "/{}");
         String path = "/a/b/c/d/e/f/g/h/i/j/kxl";
-        ask(d, path);
-        before = bean.getThreadAllocatedBytes(thread);
-        for (int i = 0; i < 400; i++) {
+        for (StageDispatcher d : all) {
+            Check.root(d, "/{r}");
+            Check.locator(d, 0, "/{r}{r}{r}{r}x", 0);
+            Check.method(d, 0, 0, "/{}");
             ask(d, path);
         }
+        before = bean.getThreadAllocatedBytes(thread);
+        for (int i = 0; i < 10 * all.length; i++) {
+            ask(all[i % all.length], path);
+        }
         long asked = bean.getThreadAllocatedBytes(thread) - before;
-        System.out.println("bytes of 400 requests and their puts: " + asked);
-        check.yes("requests make nothing", asked < 4000);
+        System.out.println("bytes of 1000 requests and their puts: " + asked);
+        check.yes("requests make nothing", asked < 10000);
         check.end();
     }
 

@@ -22,6 +22,7 @@ public final class StagesTest {
         noCandidateLeft(check);
         contents(check);
         nothingAccepted(check);
+        leftOutForGood(check);
         ranksAndQualities(check);
         theOrderOfComparing(check);
         twelveEquals(check);
@@ -417,6 +418,30 @@ public final class StagesTest {
         d.accept(33, 1);
         check.same("another method", Check.get(d, "/a"), 200);
         check.same("another method", d.invoked(), 1);
+    }
+
+    /** A method that is left out does not come back, however well it would do in what comes later. */
+    private static void leftOutForGood(Check check) {
+        StageDispatcher d = Check.rooted("/a");
+        d.method(0, 1, 0, 17, 1000);
+        d.method(0, 0, 17, 18, 0);
+        Check.typed(d, "/m").method(0, 0, 0, 17, 1000);
+        d.accept(17, 1000);
+        check.same("for its verb", Check.get(d, "/a"), 406);
+        check.same("not invoked", d.invoked(), NONE);
+        check.same("for its verb, the other for its content", Check.typed(d, "/a").request(0, 33, 0), 415);
+        StageDispatcher e = Check.rooted("/a");
+        e.method(0, 0, 17, 33, 1000);
+        e.method(0, 0, 16, 33, 1000);
+        e.method(0, 0, 0, 17, 0);
+        e.accept(17, 1);
+        check.same("for the type produced, though the type consumed ranks above",
+                Check.typed(e, "/a").request(0, 17, 0), 200);
+        check.same("for the type produced", e.invoked(), 2);
+        e.accept(33, 0);
+        e.accept(17, 1);
+        check.same("for a q of 0", Check.typed(e, "/a").request(0, 17, 0), 200);
+        check.same("for a q of 0", e.invoked(), 2);
     }
 
     /**
