@@ -127,6 +127,7 @@ public final class StagesTest {
         check.same("2, 3 and 4 match", d.invoked(), 2);
     }
 
+    /** "the CLASSES are all root resources that have the same template, character by character" */
     private static void classes(Check check) {
         StageDispatcher d = new StageDispatcher();
         Check.root(d, "/{}");
@@ -293,6 +294,7 @@ public final class StagesTest {
         check.hops("the locator of the second class is lower", d, 2);
     }
 
+    /** "among equally heavy ones those of methods before those of locators" */
     private static void methodsBeforeLocators(Check check) {
         StageDispatcher d = new StageDispatcher();
         Check.root(d, "/a");
@@ -313,6 +315,7 @@ public final class StagesTest {
         check.hops("a method's leaves no rest, a locator's does", d, 1);
     }
 
+    /** "U becomes its rest, the classes become its target alone (a HOP), and stage 2 is done again" */
     private static void hops(Check check) {
         StageDispatcher d = new StageDispatcher();
         Check.root(d, "/a");
@@ -377,6 +380,7 @@ public final class StagesTest {
         }
     }
 
+    /** "those are left out whose type consumed does not cover it; if none is left: thrown 11" */
     private static void contents(Check check) {
         int[][] rows = {
             {0, 17, 1}, {16, 17, 1}, {17, 17, 1}, {18, 17, 0}, {32, 17, 0}, {33, 17, 0}, {48, 51, 1}, {16, 35, 0}, {0, 0, 1},
@@ -526,6 +530,7 @@ public final class StagesTest {
         return d.invoked();
     }
 
+    /** "The type of the answer is where they meet for that greatest one (the one accepted first, among equals)" */
     private static void firstAccepted(Check check) {
         StageDispatcher d = new StageDispatcher();
         Check.root(d, "/a");
