@@ -20,6 +20,7 @@ public final class StageDispatcher {
     private static final int MAX_NAME = 3;
     private static final int MAX_CONVERTED = 9;
     private static final int MAX_THROWN = 15;
+    private static final int MAX_ARGUMENT = 2147483647;
 
     /** A filter's status below this one is a verb. */
     private static final int LEAST_STATUS = 100;
@@ -980,9 +981,9 @@ public final class StageDispatcher {
                     return NONE;
                 }
                 // Zeros may lead, so the number of digits does not tell what is too great.
-                number = Math.min(number * 10 + digit, Integer.MAX_VALUE + 1L);
+                number = Math.min(number * 10 + digit, MAX_ARGUMENT + 1L);
             }
-            return start == end || number > Integer.MAX_VALUE ? NONE : (int) number;
+            return start == end || number > MAX_ARGUMENT ? NONE : (int) number;
         }
     }
 }
